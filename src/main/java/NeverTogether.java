@@ -699,7 +699,8 @@ public final class NeverTogether {
     }
 
     private static int ring(int m) {
-        return Math.floorMod(m, MINUTES);
+        int rest = m % MINUTES;
+        return rest < 0 ? rest + MINUTES : rest;
     }
 
     /** Some MINUTES (fewer than all) from one on, by bits. */
@@ -707,14 +708,14 @@ public final class NeverTogether {
         return turned((1L << many) - 1, from);
     }
 
+    /** MINUTES, by bits, each so many (0 .. 59) further on. */
     private static long turned(long minutes, int by) {
-        int steps = ring(by);
-        return (minutes << steps | minutes >>> MINUTES - steps) & RING;
+        return (minutes << by | minutes >>> MINUTES - by) & RING;
     }
 
     /** What one gains in so many DAYS whose HEATS together are the warmth. */
     private static int gainOver(int kind, int rate, int days, int warmth) {
-        if (kind == STOPPED || !isKind(kind)) {
+        if (kind == STOPPED || kind < 0 || kind >= KINDS) {
             return 0;
         }
         return days * rate + HEAT_SIGN[kind] * warmth;
@@ -987,8 +988,7 @@ public final class NeverTogether {
         }
 
         int strikesOf(int i) {
-            int kind = kindOf(i);
-            return isKind(kind) ? STRIKES[kind] : 0;
+            return isPiece(i) && isKind(kinds[i]) ? STRIKES[kinds[i]] : 0;
         }
 
         boolean wasTouched(int i) {
@@ -1273,7 +1273,7 @@ public final class NeverTogether {
 
         void shift(int i, int by) {
             if (isSeen(i)) {
-                striking[i] = turned(striking[i], by);
+                striking[i] = turned(striking[i], ring(by));
             }
         }
     }
@@ -1330,7 +1330,7 @@ public final class NeverTogether {
             long meeting = run(ring(1 - otherStrikes), strikes + otherStrikes - 1);
             int set = 0;
             for (int shift = -REACH; shift <= REACH; shift++) {
-                if ((turned(gaps, shift) & meeting) != 0) {
+                if ((turned(gaps, ring(shift)) & meeting) != 0) {
                     set |= 1 << shift + REACH;
                 }
             }
