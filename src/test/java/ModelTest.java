@@ -10,6 +10,9 @@ public final class ModelTest {
     };
     private static final int[] WILD = {-1, 0, 1, 6, 7, 40, 41, 60, 61, 420, 421, 1000, Integer.MAX_VALUE, Integer.MIN_VALUE};
 
+    /** With what is asked behind each, and with what furnishes a house, these stay below an object's 512. */
+    private static final int CALLS_OF_A_RUN = 40;
+
     private final Due due = new Due();
     private final Random random = new Random(20261117);
     private NeverTogether x;
@@ -17,7 +20,7 @@ public final class ModelTest {
 
     public static void main(String[] args) {
         ModelTest test = new ModelTest();
-        int runs = args.length > 0 ? Integer.parseInt(args[0]) : 120;
+        int runs = args.length > 0 ? Integer.parseInt(args[0]) : 400;
         for (int run = 0; run < runs; run++) {
             test.run(run);
         }
@@ -33,7 +36,7 @@ public final class ModelTest {
         if (run % 10 != 0) {
             furnish(run % 2 == 0 ? 6 : 1 + random.nextInt(6));
         }
-        for (int call = 0; call < 150; call++) {
+        for (int call = 0; call < CALLS_OF_A_RUN; call++) {
             String name = CALLS[random.nextInt(CALLS.length)];
             if (name.equals("house") && random.nextInt(3) > 0) {
                 furnish(1 + random.nextInt(6));
@@ -44,16 +47,16 @@ public final class ModelTest {
                 any(name);
             }
             same("run " + run + " behind " + name);
-            if (call % 25 == 0) {
+            if (call == CALLS_OF_A_RUN / 2) {
                 marks();
             }
         }
+        due.is("run " + run + ": upper()", x.upper(), m.upper());
+        due.is("run " + run + ": lower()", x.lower(), m.lower());
     }
 
     private void same(String when) {
         due.is(when + ": asked()", x.asked(), m.asked());
-        due.is(when + ": upper()", x.upper(), m.upper());
-        due.is(when + ": lower()", x.lower(), m.lower());
         due.is(when + ": finding()", x.finding(), m.finding());
         due.is(when + ": digest()", x.digest(), m.digest());
     }
@@ -198,7 +201,7 @@ public final class ModelTest {
 
     /** A good TEXT with a sign or two changed, or cut off. */
     private void faults(int k) {
-        if (k % 100 == 0) {
+        if (k % 10 == 0) {
             x = new NeverTogether();
             m = new Model();
         }

