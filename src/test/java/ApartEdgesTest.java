@@ -29,11 +29,11 @@ public final class ApartEdgesTest {
 
     private static void apart(Edges e, String text, int n, int want, int... touches) {
         NeverTogether x = e.due.house(text);
-        e.due.is("apart(" + n + ", 0) of " + text, x.apart(n, 0), want);
+        e.is("apart(" + n + ", 0) of " + text, x.apart(n, 0), want);
         if (want == NONE) {
-            e.due.is("no ROW by apart(" + n + ", 0) of " + text, x.count(6), 0);
+            e.is("no ROW by apart(" + n + ", 0) of " + text, x.count(6), 0);
         } else {
-            e.due.rowIs("apart(" + n + ", 0) of " + text, x, 0, touches);
+            e.rowIs("apart(" + n + ", 0) of " + text, x, 0, touches);
         }
     }
 
@@ -106,16 +106,16 @@ public final class ApartEdgesTest {
         for (int i = 0; i < 40; i++) {
             x.lay(3, i, 77);
         }
-        e.due.is("apart(0, 3) over 40 ints", x.apart(0, 3), 1);
-        e.due.rowIs("apart(0, 3) over 40 ints", x, 3, -2, 0);
+        e.is("apart(0, 3) over 40 ints", x.apart(0, 3), 1);
+        e.rowIs("apart(0, 3) over 40 ints", x, 3, -2, 0);
         x.row(3, 0);
-        e.due.is("apart(0, 3) over none", x.apart(0, 3), 1);
-        e.due.rowIs("apart(0, 3) over none", x, 3, -2, 0);
+        e.is("apart(0, 3) over none", x.apart(0, 3), 1);
+        e.rowIs("apart(0, 3) over none", x, 3, -2, 0);
         x.tear(3);
-        e.due.is("apart(0, 3) over a missing one", x.apart(0, 3), 1);
-        e.due.rowIs("apart(0, 3) over a missing one", x, 3, -2, 0);
-        e.due.is("one ROW", x.count(6), 1);
-        e.due.is("nothing is done by it", x.count(2) + x.minute(0, 0), 0);
+        e.is("apart(0, 3) over a missing one", x.apart(0, 3), 1);
+        e.rowIs("apart(0, 3) over a missing one", x, 3, -2, 0);
+        e.is("one ROW", x.count(6), 1);
+        e.is("nothing is done by it", x.count(2) + x.minute(0, 0), 0);
     }
 
     private static void apartByNone(Edges e) {
@@ -141,13 +141,13 @@ public final class ApartEdgesTest {
         e.sentence(28, "(Whether they were TOUCHED this DAY does not matter.)");
         NeverTogether x = e.due.house("z0 c0040 c0140");
         x.touch(0, 1);
-        e.due.is("apart(0, 0), the first TOUCHED", x.apart(0, 0), 1);
-        e.due.rowIs("apart(0, 0), the first TOUCHED", x, 0, -2, 0);
+        e.is("apart(0, 0), the first TOUCHED", x.apart(0, 0), 1);
+        e.rowIs("apart(0, 0), the first TOUCHED", x, 0, -2, 0);
         x.touch(1, 1);
-        e.due.is("apart(0, 0), both TOUCHED", x.apart(0, 0), 0);
+        e.is("apart(0, 0), both TOUCHED", x.apart(0, 0), 0);
         NeverTogether y = e.due.house("z0 c0042 c0141");
         y.touch(1, -1);
-        e.due.told("stairs(0), the one TOUCHED", y, y.stairs(0), 2, 2);
+        e.told("stairs(0), the one TOUCHED", y, y.stairs(0), 2, 2);
     }
 
     private static void stairs(Edges e, String text, int n, int want, int who) {
@@ -311,19 +311,20 @@ public final class ApartEdgesTest {
 
     /** Nothing of six that were there is left, when there are fewer. */
     private static void afterALargerHouse(Edges e) {
+        e.sentence(11, "A HOUSE by a TEXT (anew ..)");
         NeverTogether x = e.due.house("z0 s0040 s0040 s0040 c5650 c5650 c5650");
-        e.due.is("apart(7, 0) of six", x.apart(7, 0), NONE);
-        e.due.told("doomed(8) of six", x, x.doomed(8), 9, 3);
+        e.is("apart(7, 0) of six", x.apart(7, 0), NONE);
+        e.told("doomed(8) of six", x, x.doomed(8), 9, 3);
         e.due.text(x, 1, "z0 c0040 c0140 c1040");
-        e.due.is("house(1)", x.house(1), 3);
-        e.due.told("doomed(60) of three", x, x.doomed(60), 0, NONE);
-        e.due.told("out(60) of three", x, x.out(60), 0, 0);
-        e.due.is("apart(7, 0) of three", x.apart(7, 0), 0);
-        e.due.told("stairs(7) of three", x, x.stairs(7), 0, 0);
-        e.due.told("meets(0) of three", x, x.meets(0), 0, 0);
-        e.due.is("sounds(0) of three", x.sounds(0), 3);
-        e.due.is("soon() of three", x.soon(), NONE);
-        e.due.is("cat(0) of three", x.cat(0), 1);
-        e.due.is("first(1) of three: 0 by -1", x.first(1), 1);
+        e.is("house(1)", x.house(1), 3);
+        e.told("doomed(60) of three", x, x.doomed(60), 0, NONE);
+        e.told("out(60) of three", x, x.out(60), 0, 0);
+        e.is("apart(7, 0) of three", x.apart(7, 0), 0);
+        e.told("stairs(7) of three", x, x.stairs(7), 0, 0);
+        e.told("meets(0) of three", x, x.meets(0), 0, 0);
+        e.is("sounds(0) of three", x.sounds(0), 3);
+        e.is("soon() of three", x.soon(), NONE);
+        e.is("cat(0) of three", x.cat(0), 1);
+        e.is("first(1) of three: 0 by -1", x.first(1), 1);
     }
 }

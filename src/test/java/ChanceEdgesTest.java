@@ -174,10 +174,10 @@ public final class ChanceEdgesTest {
     private static void lots(Edges e, String text, int n, int seed, int deeds, int... minutes) {
         NeverTogether x = e.due.house(text);
         x.lots(n, seed);
-        e.due.is("DEEDS by lots(" + n + ", " + seed + ") of " + text, x.count(2), deeds);
-        e.due.is("the DAY", x.count(1), n);
+        e.is("DEEDS by lots(" + n + ", " + seed + ") of " + text, x.count(2), deeds);
+        e.is("the DAY", x.count(1), n);
         for (int i = 0; i < minutes.length; i++) {
-            e.due.is("MINUTE of " + i + " by lots(" + n + ", " + seed + ") of " + text, x.minute(i, 0), minutes[i]);
+            e.is("MINUTE of " + i + " by lots(" + n + ", " + seed + ") of " + text, x.minute(i, 0), minutes[i]);
         }
     }
 

@@ -155,10 +155,10 @@ public final class DeedEdgesTest {
         e.sentence(17, "DEEDS from number n on are undone");
         for (int n = 0; n <= 40; n++) {
             NeverTogether x = deeds(e.due, 40);
-            e.due.is("undo(" + n + ") of 40", x.undo(n), 40 - n);
+            e.is("undo(" + n + ") of 40", x.undo(n), 40 - n);
             NeverTogether due = deeds(e.due, n);
-            e.due.is("as it was behind " + n, x.digest(), due.digest());
-            e.due.is("what comes behind " + n, x.day(), due.day());
+            e.is("as it was behind " + n, x.digest(), due.digest());
+            e.is("what comes behind " + n, x.day(), due.day());
             e.isTrue("as it goes on behind " + n, n == 40 || x.digest() == due.digest());
         }
     }
@@ -224,16 +224,16 @@ public final class DeedEdgesTest {
         e.sentence(19, "The HOUSE is as it was kept");
         for (int n = 0; n <= 40; n++) {
             NeverTogether x = deeds(e.due, n);
-            e.due.is("keep(1) behind " + n, x.keep(1), n);
+            e.is("keep(1) behind " + n, x.keep(1), n);
             long kept = x.digest();
             x.undo(n / 2);
             x.touch(2, 5);
             x.day();
-            e.due.is("on(1) of " + n, x.on(1), n);
-            e.due.is("as it was kept behind " + n, x.digest(), kept);
-            e.due.is("what comes behind " + n, x.day(), deeds(e.due, n).day());
-            e.due.is("undo(" + n / 3 + ")", x.undo(n / 3), Math.min(n + 1, 40) - n / 3);
-            e.due.is("a MINUTE behind " + n / 3, x.minute(0, 0), deeds(e.due, n / 3).minute(0, 0));
+            e.is("on(1) of " + n, x.on(1), n);
+            e.is("as it was kept behind " + n, x.digest(), kept);
+            e.is("what comes behind " + n, x.day(), deeds(e.due, n).day());
+            e.is("undo(" + n / 3 + ")", x.undo(n / 3), Math.min(n + 1, 40) - n / 3);
+            e.is("a MINUTE behind " + n / 3, x.minute(0, 0), deeds(e.due, n / 3).minute(0, 0));
         }
         NeverTogether x = e.due.house("z0 c0040 c3040");
         x.touch(0, 5);
@@ -243,10 +243,10 @@ public final class DeedEdgesTest {
         x.touch(1, 3);
         x.day();
         x.on(2);
-        e.due.is("on(2): all as it was kept", x.digest(), kept);
-        e.due.refused("TOUCHED this DAY", x, () -> x.touch(0, 1), Edges.STATE);
-        e.due.is("the other one not", x.touch(1, 1), 31);
-        e.due.is("undo(0) of what was kept and one more", x.undo(0), 2);
-        e.due.is("as it was at first", x.minute(0, 0), 0);
+        e.is("on(2): all as it was kept", x.digest(), kept);
+        e.refused("TOUCHED this DAY", x, () -> x.touch(0, 1), Edges.STATE);
+        e.is("the other one not", x.touch(1, 1), 31);
+        e.is("undo(0) of what was kept and one more", x.undo(0), 2);
+        e.is("as it was at first", x.minute(0, 0), 0);
     }
 }

@@ -1,3 +1,4 @@
+import java.util.function.IntSupplier;
 import java.util.function.IntUnaryOperator;
 import java.util.function.Supplier;
 import java.util.function.ToIntFunction;
@@ -60,6 +61,11 @@ final class Edges {
         return Math.floorMod(minute, 60);
     }
 
+    /** One of the three calls that take what was heard of a TIMEPIECE: rates, kinds, from. */
+    static int heard(NeverTogether x, int which, int i, int r) {
+        return which == 0 ? x.rates(i, r) : which == 1 ? x.kinds(i, r) : x.from(i, r);
+    }
+
     static NeverTogether withRows(int... sizes) {
         NeverTogether x = new NeverTogether();
         for (int r = 0; r < sizes.length; r++) {
@@ -98,6 +104,28 @@ final class Edges {
     void finds(String call, ToIntFunction<NeverTogether> of, int finding) {
         NeverTogether x = making.get();
         due.found(sentence + call, x, () -> of.applyAsInt(x), finding);
+    }
+
+    // ---- answers of an object that a test goes on with
+
+    void is(String what, long got, long want) {
+        due.is(sentence + what, got, want);
+    }
+
+    void told(String what, NeverTogether x, long got, long want, int wantAsked) {
+        due.told(sentence + what, x, got, want, wantAsked);
+    }
+
+    void rowIs(String what, NeverTogether x, int r, int... values) {
+        due.rowIs(sentence + what, x, r, values);
+    }
+
+    void found(String what, NeverTogether x, IntSupplier call, int finding) {
+        due.found(sentence + what, x, call, finding);
+    }
+
+    void refused(String what, NeverTogether x, IntSupplier call, int answer) {
+        due.refused(sentence + what, x, call, answer);
     }
 
     // ---- one call with several values of one argument, which its name shows as v

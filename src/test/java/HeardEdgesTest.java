@@ -1,6 +1,9 @@
 /** The edges of promises 32 to 35, sentence by sentence: what is late, what was heard. */
 public final class HeardEdgesTest {
     private static final int NONE = Edges.NONE, MOST = Edges.MOST, LEAST = Edges.LEAST;
+    private static final String[] NAMES = {"rates", "kinds", "from"};
+    /** What these answer, if nothing was heard. */
+    private static final int[] ALL = {1023, 63, 60};
 
     public static void main(String[] args) {
         Edges e = new Edges();
@@ -119,15 +122,6 @@ public final class HeardEdgesTest {
         e.tells("late(1) behind a TOUCH", x -> Edges.last(x.touch(1, -5), x.late(1)), 2, 1);
     }
 
-    /** The three calls that take what was heard of one TIMEPIECE. */
-    private static int heard(NeverTogether x, int which, int i, int r) {
-        return which == 0 ? x.rates(i, r) : which == 1 ? x.kinds(i, r) : x.from(i, r);
-    }
-
-    private static final String[] NAMES = {"rates", "kinds", "from"};
-    /** What is answered, if nothing was heard. */
-    private static final int[] ALL = {1023, 63, 60};
-
     private static void heardNumbers(Edges e) {
         for (int which = 0; which < 3; which++) {
             int w = which;
@@ -139,13 +133,13 @@ public final class HeardEdgesTest {
                 }
                 return x;
             });
-            e.range(NAMES[w] + "(v, 0)", (x, i) -> heard(x, w, i, 0), 0, 5, i -> ALL[w]);
-            e.range(NAMES[w] + "(0, v)", (x, r) -> heard(x, w, 0, r), 0, 5, r -> ALL[w]);
+            e.range(NAMES[w] + "(v, 0)", (x, i) -> Edges.heard(x, w, i, 0), 0, 5, i -> ALL[w]);
+            e.range(NAMES[w] + "(0, v)", (x, r) -> Edges.heard(x, w, 0, r), 0, 5, r -> ALL[w]);
             e.begin(() -> houseWith(e.due, "z0 c0040"));
-            e.range(NAMES[w] + "(v, 1) of one", (x, i) -> heard(x, w, i, 1), 0, 0, i -> ALL[w]);
-            e.allFind(NAMES[w] + "(0, v) of missing ones", (x, r) -> heard(x, w, 0, r), Edges.NOTHING, 0, 2, 3, 4, 5);
+            e.range(NAMES[w] + "(v, 1) of one", (x, i) -> Edges.heard(x, w, i, 1), 0, 0, i -> ALL[w]);
+            e.allFind(NAMES[w] + "(0, v) of missing ones", (x, r) -> Edges.heard(x, w, 0, r), Edges.NOTHING, 0, 2, 3, 4, 5);
             e.begin(() -> Edges.withRows(0, 0));
-            e.bad(NAMES[w] + "(v, 0) without TIMEPIECES", (x, i) -> heard(x, w, i, 0), -1, 0, 1);
+            e.bad(NAMES[w] + "(v, 0) without TIMEPIECES", (x, i) -> Edges.heard(x, w, i, 0), -1, 0, 1);
         }
     }
 
@@ -155,11 +149,11 @@ public final class HeardEdgesTest {
             e.sentence(33 + w, "SIZE: not by pairs");
             for (int n : new int[] {0, 2, 4, 38, 40}) {
                 e.begin(() -> houseWith(e.due, "z0 c0040", new int[n]));
-                e.is(NAMES[w] + "(0, 1) of " + n, x -> heard(x, w, 0, 1), n > 0 && w == 2 ? 1 : ALL[w]);
+                e.is(NAMES[w] + "(0, 1) of " + n, x -> Edges.heard(x, w, 0, 1), n > 0 && w == 2 ? 1 : ALL[w]);
             }
             for (int n : new int[] {1, 3, 37, 39}) {
                 e.begin(() -> houseWith(e.due, "z0 c0040", new int[n]));
-                e.finds(NAMES[w] + "(0, 1) of " + n, x -> heard(x, w, 0, 1), Edges.SIZE);
+                e.finds(NAMES[w] + "(0, 1) of " + n, x -> Edges.heard(x, w, 0, 1), Edges.SIZE);
             }
         }
     }
@@ -175,13 +169,13 @@ public final class HeardEdgesTest {
                     row[2 * pair] = days;
                     row[2 * pair + 1] = days % 60;
                     NeverTogether x = houseWith(e.due, "z0 c0050", row);
-                    e.isTrue(NAMES[w] + " in " + days + " DAYS", heard(x, w, 0, 1) > 0);
+                    e.isTrue(NAMES[w] + " in " + days + " DAYS", Edges.heard(x, w, 0, 1) > 0);
                 }
                 for (int days : new int[] {-1, 61, LEAST, MOST}) {
                     int[] row = new int[40];
                     row[2 * pair] = days;
                     e.begin(() -> houseWith(e.due, "z0 c0050", row));
-                    e.finds(NAMES[w] + " in " + days + " DAYS", x -> heard(x, w, 0, 1), Edges.UNLIKE);
+                    e.finds(NAMES[w] + " in " + days + " DAYS", x -> Edges.heard(x, w, 0, 1), Edges.UNLIKE);
                 }
             }
         }
@@ -193,15 +187,15 @@ public final class HeardEdgesTest {
             e.sentence(33 + w, "(DAYS from now, its MINUTE then) .. UNLIKE: a number that is none");
             for (int minute : new int[] {0, 1, 58, 59}) {
                 e.begin(() -> houseWith(e.due, "z0 c0040", 0, minute));
-                e.is(NAMES[w] + " at " + minute, x -> heard(x, w, 0, 1), w == 2 ? 1 : minute == 0 ? ALL[w] : 0);
+                e.is(NAMES[w] + " at " + minute, x -> Edges.heard(x, w, 0, 1), w == 2 ? 1 : minute == 0 ? ALL[w] : 0);
             }
             for (int minute : new int[] {-1, 60, LEAST, MOST}) {
                 e.begin(() -> houseWith(e.due, "z0 c0040", 0, minute));
-                e.finds(NAMES[w] + " at " + minute, x -> heard(x, w, 0, 1), Edges.UNLIKE);
+                e.finds(NAMES[w] + " at " + minute, x -> Edges.heard(x, w, 0, 1), Edges.UNLIKE);
                 e.begin(() -> houseWith(e.due, "z0 c0040", 0, 0, 0, minute));
-                e.finds(NAMES[w] + " at 0 and " + minute, x -> heard(x, w, 0, 1), Edges.UNLIKE);
+                e.finds(NAMES[w] + " at 0 and " + minute, x -> Edges.heard(x, w, 0, 1), Edges.UNLIKE);
                 e.begin(() -> houseWith(e.due, "z0 c0040", 0, 5, 0, minute));
-                e.finds(NAMES[w] + " at 5, which can't be, and " + minute, x -> heard(x, w, 0, 1), Edges.UNLIKE);
+                e.finds(NAMES[w] + " at 5, which can't be, and " + minute, x -> Edges.heard(x, w, 0, 1), Edges.UNLIKE);
             }
         }
     }
@@ -254,9 +248,9 @@ public final class HeardEdgesTest {
         NeverTogether x = houseWith(e.due, "z001 b0040", 1, 1);
         x.day();
         x.day();
-        e.due.is("rates(0, 1) on DAY 2, from its MINUTE then", x.rates(0, 1), 1 << 4);
+        e.is("rates(0, 1) on DAY 2, from its MINUTE then", x.rates(0, 1), 1 << 4);
         x.touch(0, 1);
-        e.due.is("rates(0, 1) behind a TOUCH", x.rates(0, 1), 1 << 3);
+        e.is("rates(0, 1) behind a TOUCH", x.rates(0, 1), 1 << 3);
     }
 
     private static void kinds(Edges e, String text, int want, int... row) {
@@ -297,7 +291,7 @@ public final class HeardEdgesTest {
         NeverTogether x = houseWith(e.due, "z001 c0040", 1, 1);
         x.day();
         x.day();
-        e.due.is("kinds(0, 1) on DAY 2, from its MINUTE then", x.kinds(0, 1), 4);
+        e.is("kinds(0, 1) on DAY 2, from its MINUTE then", x.kinds(0, 1), 4);
     }
 
     private static void from(Edges e, String text, int want, int first, int... row) {

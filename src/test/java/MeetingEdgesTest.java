@@ -52,11 +52,11 @@ public final class MeetingEdgesTest {
             NeverTogether x = Edges.passed(e.due.house("z0123321 c1050 b2040 r3030 s4090 k5000 m0060"), n);
             NeverTogether ahead = Edges.passed(e.due.house("z0123321 c1050 b2040 r3030 s4090 k5000 m0060"), n / 2);
             for (int i = 0; i < 6; i++) {
-                e.due.is("minute(" + i + ", 0) on DAY " + n, x.minute(i, 0), ahead.minute(i, n - n / 2));
+                e.is("minute(" + i + ", 0) on DAY " + n, x.minute(i, 0), ahead.minute(i, n - n / 2));
             }
-            e.due.told("meets on DAY " + n, x, x.meets(0), ahead.meets(n - n / 2), ahead.asked());
-            e.due.is("sounds on DAY " + n, x.sounds(0), ahead.sounds(n - n / 2));
-            e.due.told("room on DAY " + n, x, x.room(0, 3), ahead.room(n - n / 2, 3), ahead.asked());
+            e.told("meets on DAY " + n, x, x.meets(0), ahead.meets(n - n / 2), ahead.asked());
+            e.is("sounds on DAY " + n, x.sounds(0), ahead.sounds(n - n / 2));
+            e.told("room on DAY " + n, x, x.room(0, 3), ahead.room(n - n / 2, 3), ahead.asked());
         }
     }
 

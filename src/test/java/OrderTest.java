@@ -208,27 +208,23 @@ public final class OrderTest {
         e.finds("late(1), of two, one of them no MINUTE", x -> x.late(1), Edges.UNLIKE);
     }
 
-    private static int heard(NeverTogether x, int which, int i, int r) {
-        return which == 0 ? x.rates(i, r) : which == 1 ? x.kinds(i, r) : x.from(i, r);
-    }
-
     private static void heardOrder(Edges e) {
         for (int which = 0; which < 3; which++) {
             int w = which;
             e.sentence(33 + w, "BAD ahead of NOTHING");
             e.begin(() -> twoWithRow(e.due, 61));
-            e.bad("of TIMEPIECE v by a missing ROW", (x, i) -> heard(x, w, i, 0), -1, 2);
-            e.bad("of TIMEPIECE v by a ROW of one", (x, i) -> heard(x, w, i, 1), -1, 2);
-            e.bad("by ROW v", (x, r) -> heard(x, w, 0, r), -1, 6);
+            e.bad("of TIMEPIECE v by a missing ROW", (x, i) -> Edges.heard(x, w, i, 0), -1, 2);
+            e.bad("of TIMEPIECE v by a ROW of one", (x, i) -> Edges.heard(x, w, i, 1), -1, 2);
+            e.bad("by ROW v", (x, r) -> Edges.heard(x, w, 0, r), -1, 6);
             e.sentence(33 + w, "NOTHING ahead of SIZE ahead of UNLIKE");
-            e.finds("by a missing ROW", x -> heard(x, w, 0, 0), Edges.NOTHING);
-            e.finds("by a ROW of 61", x -> heard(x, w, 0, 1), Edges.SIZE);
+            e.finds("by a missing ROW", x -> Edges.heard(x, w, 0, 0), Edges.NOTHING);
+            e.finds("by a ROW of 61", x -> Edges.heard(x, w, 0, 1), Edges.SIZE);
             e.begin(() -> twoWithRow(e.due, 61, 60, 0));
-            e.finds("by a ROW of 61 60 0", x -> heard(x, w, 0, 1), Edges.SIZE);
+            e.finds("by a ROW of 61 60 0", x -> Edges.heard(x, w, 0, 1), Edges.SIZE);
             e.begin(() -> twoWithRow(e.due, 61, 60));
-            e.finds("by a ROW of 61 60", x -> heard(x, w, 0, 1), Edges.UNLIKE);
+            e.finds("by a ROW of 61 60", x -> Edges.heard(x, w, 0, 1), Edges.UNLIKE);
             e.begin(() -> Edges.withRows(1));
-            e.bad("without TIMEPIECES", (x, r) -> heard(x, w, 0, r), 0, 1);
+            e.bad("without TIMEPIECES", (x, r) -> Edges.heard(x, w, 0, r), 0, 1);
         }
     }
 

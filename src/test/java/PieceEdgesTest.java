@@ -259,16 +259,16 @@ public final class PieceEdgesTest {
     private static void twoMeet(Edges e, int a, int minute, int b, int other, boolean meet) {
         String text = "z0" + piece(a, minute) + piece(b, other);
         NeverTogether x = e.due.house(text);
-        e.due.is("meet(0, 1) of " + text, x.meet(0, 1), meet ? 0 : Edges.NONE);
-        e.due.is("count(3) of " + text, x.count(3), meet ? 1 : 0);
-        e.due.is("cat(0) of " + text, x.cat(0), meet ? 0 : 1);
-        e.due.told("meets(0) of " + text, x, x.meets(0), meet ? 1 : 0, meet ? 3 : 0);
-        e.due.told("out(0) of " + text, x, x.out(0), meet ? 1 : 0, meet ? 1 : 0);
+        e.is("meet(0, 1) of " + text, x.meet(0, 1), meet ? 0 : Edges.NONE);
+        e.is("count(3) of " + text, x.count(3), meet ? 1 : 0);
+        e.is("cat(0) of " + text, x.cat(0), meet ? 0 : 1);
+        e.told("meets(0) of " + text, x, x.meets(0), meet ? 1 : 0, meet ? 3 : 0);
+        e.told("out(0) of " + text, x, x.out(0), meet ? 1 : 0, meet ? 1 : 0);
         int sounding = 0;
         for (int m = 0; m < 60; m++) {
             sounding += Edges.ring(m - minute) < STRIKES[a] || Edges.ring(m - other) < STRIKES[b] ? 1 : 0;
         }
-        e.due.is("sounds(0) of " + text, x.sounds(0), sounding);
+        e.is("sounds(0) of " + text, x.sounds(0), sounding);
     }
 
     private static String piece(int kind, int minute) {
@@ -294,9 +294,9 @@ public final class PieceEdgesTest {
     private static void gain(Edges e, String text, int minute, int gain) {
         NeverTogether x = e.due.house(text);
         for (int n : new int[] {0, 1, 2, 60, 419, 420}) {
-            e.due.is("minute(0, " + n + ") of " + text, x.minute(0, n), Edges.ring(minute + n * gain));
+            e.is("minute(0, " + n + ") of " + text, x.minute(0, n), Edges.ring(minute + n * gain));
         }
         x.day();
-        e.due.is("day() of " + text, x.minute(0, 0), Edges.ring(minute + gain));
+        e.is("day() of " + text, x.minute(0, 0), Edges.ring(minute + gain));
     }
 }

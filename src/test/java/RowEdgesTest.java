@@ -62,8 +62,8 @@ public final class RowEdgesTest {
         e.allFind("row(2, v)", (x, n) -> x.row(2, n), Edges.SIZE, -1, -2, LEAST);
         for (int n : new int[] {0, 1, 2, 39, 40}) {
             NeverTogether x = new NeverTogether();
-            e.due.is("row(2, " + n + ")", x.row(2, n), n);
-            e.due.rowIs("row(2, " + n + ")", x, 2, new int[n]);
+            e.is("row(2, " + n + ")", x.row(2, n), n);
+            e.rowIs("row(2, " + n + ")", x, 2, new int[n]);
         }
         e.begin(() -> Edges.withRows(1, 1, 2));
         e.bad("row(2, v) leaves what was there", (x, n) -> x.row(2, n), 41, MOST);
@@ -71,16 +71,17 @@ public final class RowEdgesTest {
     }
 
     private static void rowsAnew(Edges e) {
+        e.sentence(2, "A ROW is there with n ints 0");
         NeverTogether x = new NeverTogether();
         x.row(3, 40);
         for (int i = 0; i < 40; i++) {
             x.lay(3, i, 7);
         }
-        e.due.is("row(3, 2) anew", x.row(3, 2), 2);
-        e.due.rowIs("row(3, 2) anew", x, 3, 0, 0);
-        e.due.is("row(3, 40) anew", x.row(3, 40), 40);
-        e.due.rowIs("row(3, 40) anew: nothing of what was there before", x, 3, new int[40]);
-        e.due.is("one ROW all the time", x.count(6), 1);
+        e.is("row(3, 2) anew", x.row(3, 2), 2);
+        e.rowIs("row(3, 2) anew", x, 3, 0, 0);
+        e.is("row(3, 40) anew", x.row(3, 40), 40);
+        e.rowIs("row(3, 40) anew: nothing of what was there before", x, 3, new int[40]);
+        e.is("one ROW all the time", x.count(6), 1);
     }
 
     private static void sixFullRows(Edges e) {
@@ -102,7 +103,7 @@ public final class RowEdgesTest {
         for (int text = 0; text < 4; text++) {
             h = 31 * h - 1;
         }
-        e.due.is("digest() of 240 ints, each in a place of its own", x.digest(), h);
+        e.is("digest() of 240 ints, each in a place of its own", x.digest(), h);
     }
 
     private static void laying(Edges e) {
@@ -120,15 +121,16 @@ public final class RowEdgesTest {
         e.range("lay(v, 0, 9)", (x, r) -> x.lay(r, 0, 9), 0, 5, r -> 1);
         NeverTogether x = Edges.withRows(5);
         x.lay(0, 2, 9);
-        e.due.rowIs("lay(0, 2, 9) leaves the others", x, 0, 0, 0, 9, 0, 0);
+        e.rowIs("lay(0, 2, 9) leaves the others", x, 0, 0, 0, 9, 0, 0);
     }
 
     private static void laidInts(Edges e) {
+        e.sentence(3, "Place i of a ROW is v: what it was, told by asked()");
         for (int v : new int[] {LEAST, LEAST + 1, -1, 0, 1, MOST - 1, MOST}) {
             NeverTogether x = Edges.withRows(1);
-            e.due.told("lay(0, 0, " + v + ") tells what was there", x, x.lay(0, 0, v), 1, 0);
-            e.due.told("lay(0, 0, 5) tells " + v, x, x.lay(0, 0, 5), 1, v);
-            e.due.told("at(0, 0) tells 5", x, x.at(0, 0), 1, 5);
+            e.told("lay(0, 0, " + v + ") tells what was there", x, x.lay(0, 0, v), 1, 0);
+            e.told("lay(0, 0, 5) tells " + v, x, x.lay(0, 0, 5), 1, v);
+            e.told("at(0, 0) tells 5", x, x.at(0, 0), 1, 5);
         }
     }
 
@@ -179,8 +181,8 @@ public final class RowEdgesTest {
 
     private static void copied(Edges e, String call, Edges.Call of, int v, int row, int... due) {
         NeverTogether x = fiveAndThree();
-        e.due.is(call, of.of(x, v), 1);
-        e.due.rowIs(call, x, row, due);
+        e.is(call, of.of(x, v), 1);
+        e.rowIs(call, x, row, due);
     }
 
     private static void copySizes(Edges e) {
@@ -253,13 +255,13 @@ public final class RowEdgesTest {
         for (int i = 0; i < 40; i++) {
             x.lay(0, i, i);
         }
-        e.due.is("copy(0, 0, 1, 0, 40)", x.copy(0, 0, 1, 0, 40), 1);
+        e.is("copy(0, 0, 1, 0, 40)", x.copy(0, 0, 1, 0, 40), 1);
         int[] all = new int[40];
         for (int i = 0; i < 40; i++) {
             all[i] = i;
         }
-        e.due.rowIs("copy of 40", x, 1, all);
-        e.due.found("copy of 41", x, () -> x.copy(0, 0, 1, 0, 41), Edges.BEYOND);
+        e.rowIs("copy of 40", x, 1, all);
+        e.found("copy of 41", x, () -> x.copy(0, 0, 1, 0, 41), Edges.BEYOND);
     }
 
     private static void copyOfMissing(Edges e) {
@@ -276,11 +278,12 @@ public final class RowEdgesTest {
     private static void mean(Edges e, int want, int... ints) {
         NeverTogether x = new NeverTogether();
         e.due.row(x, 5, ints);
-        e.due.told("mean of " + java.util.Arrays.toString(ints), x, x.mean(5), 1, want);
-        e.due.rowIs("mean leaves the ROW", x, 5, ints);
+        e.told("mean of " + java.util.Arrays.toString(ints), x, x.mean(5), 1, want);
+        e.rowIs("mean leaves the ROW", x, 5, ints);
     }
 
     private static void meansCut(Edges e) {
+        e.sentence(7, "The mean of a ROW's ints, cut, told by asked(): 1.");
         mean(e, 2, 2, 2, 2);
         mean(e, 2, 2, 2, 3);
         mean(e, 2, 2, 3, 3);
@@ -302,6 +305,7 @@ public final class RowEdgesTest {
     }
 
     private static void meansOfMany(Edges e) {
+        e.sentence(7, "The mean of a ROW's ints (of 0 to 40 ints)");
         mean(e, MOST, MOST);
         mean(e, LEAST, LEAST);
         mean(e, MOST, MOST, MOST);

@@ -49,12 +49,12 @@ public final class TextEdgesTest {
         for (int n : new int[] {0, 1, 2, 59, 60}) {
             NeverTogether x = texts(n);
             for (int i = 0; i < n; i++) {
-                e.due.is("a blank at " + i + " of " + n, x.put(0, i, 65), 1032);
+                e.is("a blank at " + i + " of " + n, x.put(0, i, 65), 1032);
             }
-            e.due.found("none at " + n + " of " + n, x, () -> x.put(0, n, 65), Edges.BEYOND);
-            e.due.is("text(0, 60) anew", x.text(0, 60), 60);
+            e.found("none at " + n + " of " + n, x, () -> x.put(0, n, 65), Edges.BEYOND);
+            e.is("text(0, 60) anew", x.text(0, 60), 60);
             for (int i = 0; i < 60; i++) {
-                e.due.is("a blank again at " + i, x.put(0, i, 65), 1032);
+                e.is("a blank again at " + i, x.put(0, i, 65), 1032);
             }
         }
         e.begin(() -> texts(1, 1, 2));
@@ -101,7 +101,8 @@ public final class TextEdgesTest {
         for (int[] cut : cuts) {
             e.is("put(0, 1, " + cut[0] + ")", x -> x.put(0, 1, cut[0]), 1032);
             e.is("what put(0, 1, " + cut[0] + ") put", x -> Edges.last(x.put(0, 1, cut[0]), x.put(0, 1, 32)), 1000 + cut[1]);
-            e.is("next to put(0, 1, " + cut[0] + ")", x -> Edges.last(x.put(0, 1, cut[0]), x.put(0, 0, 32) + x.put(0, 2, 32)), 2064);
+            e.is("behind put(0, 1, " + cut[0] + ")", x -> Edges.last(x.put(0, 1, cut[0]), x.put(0, 2, 32)), 1032);
+            e.is("ahead of put(0, 1, " + cut[0] + ")", x -> Edges.last(x.put(0, 1, cut[0]), x.put(0, 0, 32)), 1032);
         }
     }
 
@@ -109,15 +110,16 @@ public final class TextEdgesTest {
     private static void fault(Edges e, String text, int want) {
         NeverTogether x = e.due.house(LARGEST);
         e.due.text(x, 1, text);
-        e.due.is("fault of '" + text + "'", x.fault(1), want);
+        e.is("fault of '" + text + "'", x.fault(1), want);
         if (want == NONE) {
-            e.due.isTrue("house of '" + text + "'", x.house(1) > 0);
+            e.isTrue("house of '" + text + "'", x.house(1) > 0);
         } else {
-            e.due.refused("house of '" + text + "'", x, () -> x.house(1), Edges.STATE);
+            e.refused("house of '" + text + "'", x, () -> x.house(1), Edges.STATE);
         }
     }
 
     private static void blanks(Edges e) {
+        e.sentence(10, "blanks (32) ahead, between, behind as many as wanted");
         for (int many : new int[] {0, 1, 2, 20}) {
             String b = " ".repeat(many);
             fault(e, b + "z0c0000", NONE);
@@ -135,6 +137,7 @@ public final class TextEdgesTest {
     }
 
     private static void noBlanksWithin(Edges e) {
+        e.sentence(10, "none within items");
         fault(e, "z 0c0000", 1);
         fault(e, "z0c 0000", 3);
         fault(e, "z0c0 000", 4);
@@ -145,6 +148,7 @@ public final class TextEdgesTest {
     }
 
     private static void heatFigures(Edges e) {
+        e.sentence(10, "First z (122) and the HEAT of DAYS 0, 1, .. (1 to 7 figures 0 .. 3 ..) .. an eighth DAY: its place");
         fault(e, "yc0000", 0);
         fault(e, "zc0000", 1);
         fault(e, "{0c0000", 0);
@@ -193,6 +197,7 @@ public final class TextEdgesTest {
     }
 
     private static void pieceFigures(Edges e) {
+        e.sentence(10, "a letter, the MINUTE (00 .. 59), the RATE and 4 together (0 .. 9), the FLOOR (0 .. 3)");
         for (char letter : "ckbsmr".toCharArray()) {
             fault(e, "z0" + letter + "0000", NONE);
             fault(e, "z0" + Character.toUpperCase(letter) + "0000", 2);
@@ -224,6 +229,7 @@ public final class TextEdgesTest {
 
     /** In each place of z0c0000 each byte: what can stand there, and what another one is read as. */
     private static void everyByte(Edges e) {
+        e.sentence(10, "a letter, a figure that is none such: its place");
         String[] good = {"z", "0123", "ckbsmr", "012345", "0123456789", "0123456789", "0123"};
         for (int place = 0; place < 7; place++) {
             for (int v = 0; v < 256; v++) {
@@ -237,12 +243,13 @@ public final class TextEdgesTest {
                 NeverTogether x = new NeverTogether();
                 e.due.text(x, 0, "z0c0000");
                 x.put(0, place, v + 256 * (v % 3 - 1));
-                e.due.is("fault of z0c0000 with " + v + " at " + place, x.fault(0), due);
+                e.is("fault of z0c0000 with " + v + " at " + place, x.fault(0), due);
             }
         }
     }
 
     private static void endsTooEarly(Edges e) {
+        e.sentence(10, "the TEXT's size, if its end comes too early, or there are blanks alone");
         for (int size = 0; size < LARGEST.length(); size++) {
             boolean whole = size >= 13 && (size - 8) % 5 == 0;
             fault(e, LARGEST.substring(0, size), whole ? NONE : size);
@@ -294,23 +301,23 @@ public final class TextEdgesTest {
         x.keep(1);
         x.touch(1, -5);
         x.keep(2);
-        e.due.is("40 DEEDS", x.count(2), 40);
-        e.due.is("three kept", x.count(8), 3);
-        e.due.is("house(0) anew", x.house(0), 2);
-        e.due.is("all is as at first", x.digest(), atFirst);
-        e.due.is("the DAY", x.count(1), 0);
-        e.due.is("DEEDS", x.count(2), 0);
-        e.due.is("kept HOUSES", x.count(8), 0);
+        e.is("40 DEEDS", x.count(2), 40);
+        e.is("three kept", x.count(8), 3);
+        e.is("house(0) anew", x.house(0), 2);
+        e.is("all is as at first", x.digest(), atFirst);
+        e.is("the DAY", x.count(1), 0);
+        e.is("DEEDS", x.count(2), 0);
+        e.is("kept HOUSES", x.count(8), 0);
         for (int k = 0; k < 3; k++) {
             int place = k;
-            e.due.found("on(" + k + ")", x, () -> x.on(place), Edges.NOTHING);
+            e.found("on(" + k + ")", x, () -> x.on(place), Edges.NOTHING);
         }
-        e.due.is("not TOUCHED this DAY", x.touch(1, 1), 11);
-        e.due.is("day()", x.day(), 0);
-        e.due.is("by HEAT from DAY 0 on", x.minute(0, 0), 1);
+        e.is("not TOUCHED this DAY", x.touch(1, 1), 11);
+        e.is("day()", x.day(), 0);
+        e.is("by HEAT from DAY 0 on", x.minute(0, 0), 1);
         x.put(0, 5, '9');
-        e.due.is("a TEXT changed behind is not the HOUSE", x.undo(0), 2);
-        e.due.is("all is as at first", x.minute(0, 0), 0);
+        e.is("a TEXT changed behind is not the HOUSE", x.undo(0), 2);
+        e.is("all is as at first", x.minute(0, 0), 0);
     }
 
     private static void houseWithFault(Edges e) {
