@@ -312,19 +312,31 @@ public final class ApartEdgesTest {
     /** Nothing of six that were there is left, when there are fewer. */
     private static void afterALargerHouse(Edges e) {
         e.sentence(11, "A HOUSE by a TEXT (anew ..)");
+        e.begin(() -> threeAfterSix(e, "z0 c0040 c0240 c5640"));
+        e.is("soon(), one being where the fourth was", x -> x.soon(), NONE);
+        e.tells("meets(0)", x -> x.meets(0), 0, 0);
+        e.is("count(3)", x -> x.count(3), 0);
+        e.is("cat(0)", x -> x.cat(0), 1);
+        e.is("first(1): 0 by -1", x -> x.first(1), 1);
+        e.begin(() -> threeAfterSix(e, "z0 c0040 c0240 c1040"));
+        e.is("sounds(0), none being where the fourth was", x -> x.sounds(0), 3);
+        e.tells("room(0, 9)", x -> x.room(0, 9), 11, 41);
+        e.tells("doomed(60)", x -> x.doomed(60), 0, NONE);
+        e.tells("out(60)", x -> x.out(60), 0, 0);
+        e.is("apart(7, 0)", x -> x.apart(7, 0), 0);
+        e.tells("stairs(7)", x -> x.stairs(7), 0, 0);
+    }
+
+    /** Six have been looked at in every way, ahead of three. */
+    private static NeverTogether threeAfterSix(Edges e, String three) {
         NeverTogether x = e.due.house("z0 s0040 s0040 s0040 c5650 c5650 c5650");
+        e.told("meets(0) of six", x, x.meets(0), 6, 63);
+        e.is("cat(0) of six", x.cat(0), 0);
+        e.is("first(1) of six", x.first(1), NONE);
         e.is("apart(7, 0) of six", x.apart(7, 0), NONE);
         e.told("doomed(8) of six", x, x.doomed(8), 9, 3);
-        e.due.text(x, 1, "z0 c0040 c0140 c1040");
+        e.due.text(x, 1, three);
         e.is("house(1)", x.house(1), 3);
-        e.told("doomed(60) of three", x, x.doomed(60), 0, NONE);
-        e.told("out(60) of three", x, x.out(60), 0, 0);
-        e.is("apart(7, 0) of three", x.apart(7, 0), 0);
-        e.told("stairs(7) of three", x, x.stairs(7), 0, 0);
-        e.told("meets(0) of three", x, x.meets(0), 0, 0);
-        e.is("sounds(0) of three", x.sounds(0), 3);
-        e.is("soon() of three", x.soon(), NONE);
-        e.is("cat(0) of three", x.cat(0), 1);
-        e.is("first(1) of three: 0 by -1", x.first(1), 1);
+        return x;
     }
 }

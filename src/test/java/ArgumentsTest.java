@@ -9,6 +9,7 @@ import java.util.List;
  * nothing is thrown, and all is answered as the Model answers it.
  */
 public final class ArgumentsTest {
+    /** For copy and odds, which name fewer numbers than others and take more arguments. */
     private static final int[] FEW = {Integer.MIN_VALUE, -1, 0, 1, 2, 3, 5, 6, 39, 40, 41, Integer.MAX_VALUE};
     private static final int[] SOME = {Integer.MIN_VALUE, -6, -5, -1, 0, 1, 2, 3, 4, 5, 6, 7, 11, 12, 13, Integer.MAX_VALUE};
     private static final int[] MANY = {
@@ -40,7 +41,7 @@ public final class ArgumentsTest {
     private void allArguments(Method call, int state) throws Exception {
         Method due = Model.class.getDeclaredMethod(call.getName(), call.getParameterTypes());
         int parameters = call.getParameterCount();
-        int[] values = parameters == 5 ? FEW : parameters >= 3 ? SOME : MANY;
+        int[] values = parameters == 5 ? FEW : parameters == 4 ? SOME : MANY;
         List<Object[]> all = new ArrayList<>();
         add(all, new Object[parameters], 0, values);
         for (int k = 0; k < all.size(); k++) {

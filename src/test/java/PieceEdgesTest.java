@@ -156,6 +156,9 @@ public final class PieceEdgesTest {
         mark(e, "z0 s0040 c0150", 3, 1);
         mark(e, "z0 s0040 c0050", 3, 1);
         mark(e, "z0 s0040 c0160", 3, 0);
+        // Where it would have been on the DAY ahead does not count.
+        mark(e, "z01 s0040 b0150", 3, 0);
+        markAfterADay(e, "z01 s0040 b0150", 3, 0);
         mark(e, "z0 s0040", 3, 0);
         mark(e, "z0 s0040 m5840", 3, 0);
         mark(e, "z0 s0040 m0040", 3, 1);
