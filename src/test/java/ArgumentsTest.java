@@ -10,7 +10,7 @@ import java.util.List;
  */
 public final class ArgumentsTest {
     /** For copy and odds, which name fewer numbers than others and take more arguments. */
-    private static final int[] FEW = {Integer.MIN_VALUE, -1, 0, 1, 2, 3, 5, 6, 39, 40, 41, Integer.MAX_VALUE};
+    private static final int[] FEW = {Integer.MIN_VALUE, -1, 0, 1, 2, 3, 4, 5, 6, 39, 40, 41, Integer.MAX_VALUE};
     private static final int[] SOME = {Integer.MIN_VALUE, -6, -5, -1, 0, 1, 2, 3, 4, 5, 6, 7, 11, 12, 13, Integer.MAX_VALUE};
     private static final int[] MANY = {
         Integer.MIN_VALUE, Integer.MIN_VALUE + 1, -61, -60, -10, -6, -5, -4, -1, 0, 1, 2, 3, 4, 5, 6, 7, 8, 9, 10, 12, 13, 19, 20,
