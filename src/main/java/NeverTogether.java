@@ -265,7 +265,7 @@ public final class NeverTogether {
         }
         int warmth = 0;
         for (int d = 0; d <= FARTHEST; d++) {
-            if (home.doMeet(i, j, d, warmth)) {
+            if (home.willMeet(i, j, d, warmth)) {
                 return d;
             }
             warmth += home.heatAfter(d);
@@ -302,7 +302,7 @@ public final class NeverTogether {
         int warmth = 0;
         int times = 0;
         for (int d = 0; d <= n; d++) {
-            if (home.doMeet(i, j, d, warmth)) {
+            if (home.willMeet(i, j, d, warmth)) {
                 times++;
             }
             warmth += home.heatAfter(d);
@@ -743,8 +743,9 @@ public final class NeverTogether {
             return isNumber(r) && sizes[r] != MISSING;
         }
 
+        /** A missing one's size is below 0, so it has no places. */
         boolean isPlace(int r, int i) {
-            return isThere(r) && i >= 0 && i < sizes[r];
+            return r >= 0 && r < sizes.length && i >= 0 && i < sizes[r];
         }
 
         /** Sizes are taken off, as i + n could wrap around. */
@@ -1059,7 +1060,7 @@ public final class NeverTogether {
             return run(minuteAfter(i, days, warmth), strikesOf(i));
         }
 
-        boolean doMeet(int i, int j, int days, int warmth) {
+        boolean willMeet(int i, int j, int days, int warmth) {
             return (strikingAfter(i, days, warmth) & strikingAfter(j, days, warmth)) != 0;
         }
 
@@ -1337,8 +1338,9 @@ public final class NeverTogether {
             return set;
         }
 
-        private boolean doMeet(int i, int j, int shift) {
-            return (barred[6 * i + j] >> shift + REACH & 1) == 1;
+        private boolean meetBy(int i, int j, int shift) {
+            int pair = 6 * i + j;
+            return pair >= 0 && pair < barred.length && (barred[pair] >> shift + REACH & 1) == 1;
         }
 
         int doomedPairs() {
@@ -1373,7 +1375,7 @@ public final class NeverTogether {
         private boolean agreeWithout(int set) {
             for (int i = 0; i < pieces; i++) {
                 for (int j = i + 1; j < pieces; j++) {
-                    if ((set >> i & 1) == 0 && (set >> j & 1) == 0 && doMeet(i, j, 0)) {
+                    if ((set >> i & 1) == 0 && (set >> j & 1) == 0 && meetBy(i, j, 0)) {
                         return false;
                     }
                 }
@@ -1412,7 +1414,7 @@ public final class NeverTogether {
 
         private boolean fits(int i, int by) {
             for (int k = 0; k < i; k++) {
-                if (doMeet(k, i, by - touches[k])) {
+                if (meetBy(k, i, by - touches[k])) {
                     return false;
                 }
             }
